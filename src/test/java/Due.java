@@ -32,6 +32,21 @@ final class Due {
         return wrong != 0;
     }
 
+    /** The test of one sentence of the document: if it goes wrong, the sentence is printed, and the next ones still run. */
+    static void sentence(String words, Runnable test) {
+        int before = wrong;
+        int lookedBefore = looked;
+        try {
+            test.run();
+        } catch (RuntimeException | StackOverflowError e) {
+            is("a call threw " + e + " (1) or not (0)", true, false);
+        }
+        is("the test of a sentence looks at something", looked > lookedBefore, true);
+        if (wrong != before) {
+            System.out.println("BROKEN: " + words);
+        }
+    }
+
     static void end() {
         System.out.println(looked + " answers looked at, " + wrong + " not as due");
         System.exit(wrong == 0 && looked > 0 ? 0 : 1);
@@ -62,6 +77,24 @@ final class Due {
             is("waiter(" + l + ", " + i + ")", x.waiter(l, i), waiters[i]);
         }
         is("waiter(" + l + ", " + waiters.length + ")", x.waiter(l, waiters.length), ProbeDeadlock.NONE);
+    }
+
+    /** Those whose entries in the queue of l are reported are just these. */
+    static void marks(ProbeDeadlock x, int l, int... reported) {
+        for (int t = -1; t <= ProbeDeadlock.MAX_TRANSACTIONS; t++) {
+            boolean want = false;
+            for (int r : reported) {
+                want |= r == t;
+            }
+            is("reported(" + t + ", " + l + ")", x.reported(t, l), want);
+        }
+    }
+
+    /** The holders of locks 0, 1, 2 .. */
+    static void holders(ProbeDeadlock x, int... holders) {
+        for (int l = 0; l < holders.length; l++) {
+            is("holder(" + l + ")", x.holder(l), holders[l]);
+        }
     }
 
     /** The list of victims is just this. */
