@@ -39,10 +39,6 @@ final class Edge {
         Due.queued(x, 1, 2, 0);
         Due.is("settle()", x.settle(), 1);
         Due.queued(x, 4, 0, 3);
-        Due.states(x, 1, 2, 3, 0, 2, 0);
-        Due.holders(x, 0, 1, 1, 0, -1, -1, 1);
-        Due.victims(x, 2);
-        Due.marks(x, 0, 1);
         return x;
     }
 
@@ -103,6 +99,64 @@ final class Edge {
         Due.is("report(2)", x.report(2), 0);
         Due.is("report(3)", x.report(3), 1);
         Due.victims(x, 0);
+    }
+
+    /** The calls that only look, by their numbers. */
+    static final int STATE = 0;
+    static final int PRIORITY = 1;
+    static final int HOLDER = 2;
+    static final int WAITER = 3;
+    static final int REPORTED = 4;
+    static final int WAITS_FOR = 5;
+    static final int CARRIES = 6;
+    static final int VICTIMS = 7;
+    static final int VICTIM = 8;
+    static final int LOOKS = 9;
+
+    private static int look(ProbeDeadlock x, int kind, int a, int b) {
+        return switch (kind) {
+            case STATE -> x.state(a);
+            case PRIORITY -> x.priority(a);
+            case HOLDER -> x.holder(a);
+            case WAITER -> x.waiter(a, b);
+            case REPORTED -> x.reported(a, b) ? 1 : 0;
+            case WAITS_FOR -> x.waitsFor(a, b);
+            case CARRIES -> x.carries(a, b) ? 1 : 0;
+            case VICTIMS -> x.victims();
+            default -> x.victim(a);
+        };
+    }
+
+    /**
+     * After looks of this kind with all numbers near, every first look at anything is as it is without them.
+     * Each is taken on an object of its own: a look that changes something could hide that from the next one.
+     */
+    static void changesNothing(int kind) {
+        for (int other = 0; other < LOOKS; other++) {
+            for (int a = -1; a <= 7; a++) {
+                for (int b = -1; b <= 7; b++) {
+                    ProbeDeadlock looked = rich();
+                    lookAround(looked, kind);
+                    int due = look(rich(), other, a, b);
+                    Due.is("look " + other + " at " + a + ", " + b + " after looks " + kind,
+                        look(looked, other, a, b), due);
+                }
+            }
+        }
+    }
+
+    private static void lookAround(ProbeDeadlock x, int kind) {
+        int[] far = {Integer.MIN_VALUE, -100, 100, Integer.MAX_VALUE};
+        for (int a = -14; a <= 14; a++) {
+            for (int b = -14; b <= 14; b++) {
+                look(x, kind, a, b);
+            }
+        }
+        for (int a : far) {
+            for (int b : far) {
+                look(x, kind, a, b);
+            }
+        }
     }
 
     /** All that can be seen of lock l. */

@@ -55,11 +55,6 @@ public final class Edges09Test {
     }
 
     private static void changesNothing() {
-        ProbeDeadlock x = Edge.rich();
-        String before = Due.all(x);
-        for (int t = -20; t <= 20; t++) {
-            x.state(t);
-            Due.is("state(" + t + ")", Due.all(x), before);
-        }
+        Edge.changesNothing(Edge.STATE);
     }
 }

@@ -65,11 +65,6 @@ public final class Edges10Test {
     }
 
     private static void changesNothing() {
-        ProbeDeadlock x = Edge.rich();
-        String before = Due.all(x);
-        for (int t = -20; t <= 20; t++) {
-            x.priority(t);
-            Due.is("priority(" + t + ")", Due.all(x), before);
-        }
+        Edge.changesNothing(Edge.PRIORITY);
     }
 }

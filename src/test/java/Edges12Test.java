@@ -110,13 +110,6 @@ public final class Edges12Test {
     }
 
     private static void changesNothing() {
-        ProbeDeadlock x = Edge.rich();
-        String before = Due.all(x);
-        for (int l = -14; l <= 14; l++) {
-            for (int i = -9; i <= 9; i++) {
-                x.waiter(l, i);
-            }
-            Due.is("waiter(" + l + ", ..)", Due.all(x), before);
-        }
+        Edge.changesNothing(Edge.WAITER);
     }
 }

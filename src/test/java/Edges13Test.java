@@ -133,13 +133,6 @@ public final class Edges13Test {
     }
 
     private static void changesNothing() {
-        ProbeDeadlock x = Edge.rich();
-        String before = Due.all(x);
-        for (int l = -14; l <= 14; l++) {
-            for (int t = -9; t <= 9; t++) {
-                x.reported(t, l);
-            }
-            Due.is("reported(.., " + l + ")", Due.all(x), before);
-        }
+        Edge.changesNothing(Edge.REPORTED);
     }
 }

@@ -160,13 +160,6 @@ public final class Edges14Test {
     }
 
     private static void changesNothing() {
-        ProbeDeadlock x = Edge.rich();
-        String before = Due.all(x);
-        for (int t = -9; t <= 9; t++) {
-            for (int u = -9; u <= 9; u++) {
-                x.waitsFor(t, u);
-            }
-            Due.is("waitsFor(" + t + ", ..)", Due.all(x), before);
-        }
+        Edge.changesNothing(Edge.WAITS_FOR);
     }
 }

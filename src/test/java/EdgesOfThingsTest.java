@@ -96,20 +96,20 @@ public final class EdgesOfThingsTest {
     }
 
     private static void waiting() {
-        for (int step : new int[] {1, 5, 7, 11}) {
+        for (int last = 0; last < 12; last++) {
             ProbeDeadlock x = new ProbeDeadlock(2, 12, 4);
             Due.begin(x, 1, 2);
             for (int l = 0; l < 12; l++) {
                 Due.granted(x, 0, l);
             }
             for (int n = 0; n < 12; n++) {
-                Due.queued(x, 1, n * step % 12);
+                Due.queued(x, 1, (n * 7 + last) % 12);
                 Due.states(x, 1, 2);
             }
             // The waits end one by one, granted and given up by turns: the last one alone makes a difference.
             for (int n = 0; n < 12; n++) {
                 Due.states(x, 1, 2);
-                int l = (n * step + 6) % 12;
+                int l = (last + 1 + n) % 12;
                 Due.is("drop", x.drop(n % 2, l), n % 2 == 0 ? 3 : 4);
             }
             Due.states(x, 1, 1);
@@ -134,6 +134,10 @@ public final class EdgesOfThingsTest {
 
     private static void live() {
         ProbeDeadlock x = Edge.rich();
+        Due.states(x, 1, 2, 3, 0, 2, 0);
+        Due.holders(x, 0, 1, 1, 0, -1, -1, 1);
+        Due.victims(x, 2);
+        Due.marks(x, 0, 1);
         boolean[] live = {true, true, false, false, true, false};
         for (int t = 0; t < 6; t++) {
             Due.is("priority(" + t + ") is there", x.priority(t) != -1, live[t]);

@@ -147,7 +147,19 @@ public final class EdgesOfWaitsTest {
                 Due.is("drop", y.drop(gap, (gap + 1) % n), 4);
                 Due.is("settle() of a ring with a gap", y.settle(), 0);
             }
-            // With any one edge not reported, there is none either.
+            // With one site that has not reported, some edges are not, and there is none either.
+            int sites = Math.min(n, 4);
+            for (int silent = 0; silent < sites; silent++) {
+                ProbeDeadlock y = Edge.ring(sites, priorities);
+                for (int s = 0; s < sites; s++) {
+                    if (s != silent) {
+                        Due.is("report(" + s + ") without " + silent, y.report(s), 0);
+                    }
+                }
+                Due.is("report(" + silent + ")", y.report(silent), 1);
+                Due.victims(y, lowest);
+            }
+            // With any one edge new and not reported, there is none until the next report.
             for (int late = 0; late < n; late++) {
                 ProbeDeadlock y = Edge.ring(1, priorities);
                 Due.is("drop", y.drop(late, (late + 1) % n), 4);
@@ -257,6 +269,27 @@ public final class EdgesOfWaitsTest {
             Due.is("settle()", x.settle(), 0);
             Due.is("waitsFor(0, 2)", x.waitsFor(0, 2), 2);
             Due.is("carries(3, 0) of a higher one", x.carries(3, 0), false);
+        }
+        lostWithEveryEnd();
+    }
+
+    /** A path of one edge, lost by each call that can take the edge away. */
+    private static void lostWithEveryEnd() {
+        for (int way = 0; way < 5; way++) {
+            ProbeDeadlock x = new ProbeDeadlock(2, 1, 1);
+            Due.begin(x, 10, 20);
+            Due.granted(x, 1, 0);
+            Due.queued(x, 0, 0);
+            Due.is("settle()", x.settle(), 0);
+            Due.is("carries(1, 0) before", x.carries(1, 0), true);
+            switch (way) {
+                case 0 -> Due.is("drop(0, 0)", x.drop(0, 0), 4);
+                case 1 -> Due.is("drop(1, 0)", x.drop(1, 0), 3);
+                case 2 -> Due.is("commit(1)", x.commit(1), true);
+                case 3 -> Due.is("abort(1)", x.abort(1), true);
+                default -> Due.is("abort(0)", x.abort(0), true);
+            }
+            Due.is("carries(1, 0) after way " + way, x.carries(1, 0), false);
         }
     }
 }
