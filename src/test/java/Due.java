@@ -32,7 +32,7 @@ final class Due {
         return wrong != 0;
     }
 
-    /** The test of one sentence of the document: if it goes wrong, the sentence is printed, and the next ones still run. */
+    /** The test of one sentence of the document: if it goes wrong, the sentence is printed; the others still run. */
     static void sentence(String words, Runnable test) {
         int before = wrong;
         int lookedBefore = looked;

@@ -4,8 +4,8 @@ public final class Edges02Test {
         Due.sentence("`begin(t, p)` is refused (`false`) if t is not in 0..T-1", Edges02Test::noTransaction);
         Due.sentence("`begin(t, p)` is refused (`false`) if p is not in 0..99", Edges02Test::noPriority);
         Due.sentence("`begin(t, p)` is refused (`false`) if t is live.", Edges02Test::live);
-        Due.sentence("Otherwise t is `FREE` or `VICTIM`: t becomes `RUNNING` with priority p, and the answer is `true`.",
-            Edges02Test::becomesRunning);
+        Due.sentence("Otherwise t is `FREE` or `VICTIM`: t becomes `RUNNING` with priority p, "
+            + "and the answer is `true`.", Edges02Test::becomesRunning);
         Due.sentence("t then holds nothing and waits for nothing.", Edges02Test::holdsNothing);
         Due.sentence("The other transactions, the locks, the queues and the marks are not changed.",
             Edges02Test::othersStay);

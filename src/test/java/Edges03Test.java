@@ -7,7 +7,8 @@ public final class Edges03Test {
         Due.sentence("`REFUSED` if t holds l", Edges03Test::holds);
         Due.sentence("`REFUSED` if t is in the queue of l.", Edges03Test::inTheQueue);
         Due.sentence("Otherwise, if l has no holder, t becomes its holder and t's state stays as it is "
-            + "(`RUNNING` stays `RUNNING`, `WAITING` stays `WAITING`). The answer is `GRANTED`.", Edges03Test::noHolder);
+            + "(`RUNNING` stays `RUNNING`, `WAITING` stays `WAITING`). The answer is `GRANTED`.",
+            Edges03Test::noHolder);
         Due.sentence("Otherwise an entry of t, not reported, is put at the end of the queue of l, "
             + "and t is `WAITING` (whether it was `RUNNING` or `WAITING` before). The answer is `QUEUED`.",
             Edges03Test::atTheEnd);
@@ -224,6 +225,8 @@ public final class Edges03Test {
     }
 
     private static void othersStay() {
+        // Its last two requests, for locks 0 and 3, left the mark of 1 at lock 0.
+        Due.marks(Edge.rich(), 0, 1);
         for (int t : new int[] {0, 1, 4}) {
             for (int l = 0; l < 7; l++) {
                 ProbeDeadlock x = Edge.rich();
