@@ -24,7 +24,7 @@ final class Due {
         looked++;
         if (!got.equals(want)) {
             wrong++;
-            System.out.println(call + " left\n  " + got + "\ndue is\n  " + want);
+            System.out.println(call + ": got\n  " + got + "\ndue is\n  " + want);
         }
     }
 
